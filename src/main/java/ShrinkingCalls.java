@@ -491,7 +491,8 @@ public final class ShrinkingCalls {
         }
 
         static boolean isBad(int key) {
-            return (key & Arcs.LESS_TO_ITSELF) == 0 && isRound(key);
+            int arcs = key & ARCS;
+            return from(key) == to(key) && !Arcs.hasLessToItself(arcs) && Arcs.join(arcs, arcs) == arcs;
         }
     }
 
@@ -834,20 +835,20 @@ public final class ShrinkingCalls {
                 }
             }
             for (int i = 0; i < size && i < MOST && !large; i++) {
-                noteIfBad(i);
-                if (stopAtBad && firstBad >= 0) {
-                    return;
+                if (Keys.isBad(keys[i])) {
+                    noteBad(i);
+                    if (stopAtBad) {
+                        return;
+                    }
                 }
                 goOnFrom(i, book, leftOut);
             }
         }
 
-        private void noteIfBad(int i) {
-            if (Keys.isBad(keys[i])) {
-                badActs |= 1 << Keys.from(keys[i]);
-                if (firstBad < 0) {
-                    firstBad = i;
-                }
+        private void noteBad(int i) {
+            badActs |= 1 << Keys.from(keys[i]);
+            if (firstBad < 0) {
+                firstBad = i;
             }
         }
 
