@@ -2,21 +2,6 @@
 public final class PromisesTest {
     private static final int BAD = -1, STATE = -2, FULL = -3, ENDLESS = -4, NONE = -9;
 
-    /** More than 1000 graphs by one: found by search, counted by the oracle. */
-    private static final String LARGE_BY_ONE =
-            "act A3;act B3;call AB 0=0 1=2 2=1;call BA 1=1 1=0 2=2 0>1;call AA 1=0 1=2 2=1;call AA 0>2 1=0 2=2;";
-    private static final String JUST_1000 =
-            "act A3;act B3;call AB 2=0 1>2 0=1;call BA 2=2 0>0 1=1;call AB 2=2 2>1 1=1 0=1 0=0;"
-            + "call AA 1>1 2=2 0>1 1=0 0=0;call BA 0=1 2=0 2=1;";
-    /** It ends and has 342 graphs, but with one of its arcs KEPT more than 1000. */
-    private static final String LARGE_IF_KEPT =
-            "act A3;call AA 1=2 2=0 0>1 1=1;call AA 1=0 0=2 2>1;call AA 1=1 0>2 2=2 2=0 0=1;";
-    private static final String SHORTEST_OF_8 =
-            "act A3;act B3;call AB 2>0 0=1 1=2;call BA 1=1 0>2;call BA 0=1 2=2;";
-    /** It need not end, but the shortest way that shows it has nine calls. */
-    private static final String SHORTEST_OF_9 =
-            "act A3;act B3;act C3;call AB 2=0 0=1 1=2;call BC 1=2 2=0 0=1;call CA 0=0 2=2;";
-
     private static int wrong = 0;
     private static int checks = 0;
 
@@ -279,8 +264,8 @@ public final class PromisesTest {
         due("between other acts", told("call AA;call BB;").graphs(), 2);
         due("a row of calls", told("call AB;call BC;call CD;").graphs(), 6);
         due("calls that do not meet", told("call AB;call CD;").graphs(), 2);
-        due("graphs: 1000", told(JUST_1000).graphs(), 1000);
-        ShrinkingCalls x = told(LARGE_BY_ONE);
+        due("graphs: 1000", told(Texts.JUST_1000).graphs(), 1000);
+        ShrinkingCalls x = told(Texts.LARGE_BY_ONE);
         due("graphs: 1001", x.graphs(), STATE);
         x.put(0, 0, 0, 0);
         x.put(0, 1, 2, 0);
@@ -313,18 +298,18 @@ public final class PromisesTest {
         due("graph(1, 0)", two.graph(1, 0), BAD);
         due("graph(0, 5)", two.graph(0, 5), BAD);
         due("graph(0, -1)", two.graph(0, -1), BAD);
-        ShrinkingCalls large = told(LARGE_BY_ONE);
+        ShrinkingCalls large = told(Texts.LARGE_BY_ONE);
         due("large: graph(-1, 0)", large.graph(-1, 0), BAD);
         due("large: graph(0, 5)", large.graph(0, 5), BAD);
         due("large: graph(0, 0)", large.graph(0, 0), STATE);
         due("large: graph(2000, 0)", large.graph(2000, 0), STATE);
-        ShrinkingCalls full = told(JUST_1000);
+        ShrinkingCalls full = told(Texts.JUST_1000);
         due("graph(999, 0)", full.graph(999, 0), 1);
         due("graph(1000, 0)", full.graph(1000, 0), BAD);
     }
 
     private static void p11Together() {
-        ShrinkingCalls x = told(LARGE_BY_ONE);
+        ShrinkingCalls x = told(Texts.LARGE_BY_ONE);
         due("KEPT, KEPT", x.together(3, 27), 1);
         due("KEPT, LESS", x.together(3, 54), 2);
         due("LESS, KEPT", x.together(6, 27), 2);
@@ -351,9 +336,9 @@ public final class PromisesTest {
         due("ends(-2)", x.ends(-2), BAD);
         due("a call to itself without places", told("call CC;").ends(2), 0);
         due("calls that go on only", told("call AB;call BC;call CD;").ends(-1), 1);
-        due("large: ends(-1)", told(LARGE_BY_ONE).ends(-1), STATE);
-        due("large: ends(3)", told(LARGE_BY_ONE).ends(3), STATE);
-        due("large: ends(4)", told(LARGE_BY_ONE).ends(4), BAD);
+        due("large: ends(-1)", told(Texts.LARGE_BY_ONE).ends(-1), STATE);
+        due("large: ends(3)", told(Texts.LARGE_BY_ONE).ends(3), STATE);
+        due("large: ends(4)", told(Texts.LARGE_BY_ONE).ends(4), BAD);
     }
 
     private static void p13Shortest() {
@@ -367,17 +352,17 @@ public final class PromisesTest {
         due("shortest(-1) if it ends", x.shortest(-1), NONE);
         due("shortest(0) if it ends", x.shortest(0), NONE);
         due("shortest(99) if it ends", x.shortest(99), NONE);
-        ShrinkingCalls eight = told(SHORTEST_OF_8);
+        ShrinkingCalls eight = told(Texts.SHORTEST_OF_8);
         due("eight calls", eight.shortest(-1), 8);
         due("the eighth", eight.shortest(7) >= 0 ? 1 : 0, 1);
         due("no ninth", eight.shortest(8), BAD);
-        ShrinkingCalls nine = told(SHORTEST_OF_9);
+        ShrinkingCalls nine = told(Texts.SHORTEST_OF_9);
         due("nine calls: it does not end", nine.ends(-1), 0);
         due("nine calls", nine.shortest(-1), NONE);
         due("nine calls: the first", nine.shortest(0), NONE);
-        due("large", told(LARGE_BY_ONE).shortest(-1), STATE);
-        due("large, k beyond", told(LARGE_BY_ONE).shortest(50), STATE);
-        due("large, k below", told(LARGE_BY_ONE).shortest(-2), BAD);
+        due("large", told(Texts.LARGE_BY_ONE).shortest(-1), STATE);
+        due("large, k beyond", told(Texts.LARGE_BY_ONE).shortest(50), STATE);
+        due("large, k below", told(Texts.LARGE_BY_ONE).shortest(-2), BAD);
     }
 
     private static void p14Go() {
@@ -435,7 +420,7 @@ public final class PromisesTest {
         due("no places: graph", none.trip(0), 0);
         due("no places: threads", none.trip(1), 0);
         due("no places: falls", none.trip(2), 0);
-        ShrinkingCalls large = told(LARGE_BY_ONE);
+        ShrinkingCalls large = told(Texts.LARGE_BY_ONE);
         large.go(2);
         due("large: the trip is told all the same", large.trip(1), 6);
     }
@@ -451,7 +436,7 @@ public final class PromisesTest {
         due("no order", told("act A2;call AA 0>1 1>0;").slow(0), NONE);
         due("KEPT alone", told("act A2;call AA 0=0 1=1;").slow(0), NONE);
         due("by another act", told("act A1;act B1;call AB 0>0;call BA 0=0;").slow(1), 1);
-        ShrinkingCalls x = told(LARGE_BY_ONE);
+        ShrinkingCalls x = told(Texts.LARGE_BY_ONE);
         due("slow(4)", x.slow(4), BAD);
         due("slow(-1)", x.slow(-1), BAD);
         due("large", x.slow(3), STATE);
@@ -474,8 +459,8 @@ public final class PromisesTest {
         due("one for both rounds", hub.mended(1), 16);
         due("all calls", told("call AA;call AA;call AA;call AA;call AA;call AA;call AA;call AA;").mended(1), 255);
         due("none needed", told("act A1;call AA 0>0;").mended(0), 0);
-        due("large", told(LARGE_BY_ONE).mended(0), STATE);
-        due("large, BAD first", told(LARGE_BY_ONE).mended(2), BAD);
+        due("large", told(Texts.LARGE_BY_ONE).mended(0), STATE);
+        due("large, BAD first", told(Texts.LARGE_BY_ONE).mended(2), BAD);
     }
 
     private static void p19Needed() {
@@ -494,8 +479,8 @@ public final class PromisesTest {
         due("it does not end, BAD first", x.needed(-2), BAD);
         ShrinkingCalls last = told("act A3;call AB;call AB;call AB;call AB;call AB;call AB;call AB;call AA 2>2;");
         due("the last arc there may be", last.needed(0), 71);
-        due("large", told(LARGE_BY_ONE).needed(-1), STATE);
-        ShrinkingCalls kept = told(LARGE_IF_KEPT);
+        due("large", told(Texts.LARGE_BY_ONE).needed(-1), STATE);
+        ShrinkingCalls kept = told(Texts.LARGE_IF_KEPT);
         due("large if KEPT: ends", kept.ends(-1), 1);
         due("large if KEPT: graphs", kept.graphs(), 342);
         due("large if KEPT: needed", kept.needed(-1), STATE);
@@ -536,7 +521,7 @@ public final class PromisesTest {
         ShrinkingCalls high = told("act A3;call AA 0>0;call AA 0=0 1>1;call AA 0=0 1=1 2>2;");
         high.most(3);
         due("as many calls as sizes", high.longest(0, 3, 3, 3), 63);
-        due("large: runs are told all the same", told(LARGE_BY_ONE).longest(2, 0, 0, 0), 0);
+        due("large: runs are told all the same", told(Texts.LARGE_BY_ONE).longest(2, 0, 0, 0), 0);
     }
 
     private static void p22Next() {
