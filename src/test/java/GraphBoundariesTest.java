@@ -1,5 +1,6 @@
 import java.util.ArrayDeque;
 import java.util.HashSet;
+import java.util.List;
 import java.util.Set;
 
 /** The boundary cases of promises 9 to 13, and of the terms that they rest on: GRAPHS, LARGE, ROUND, BAD, SHORTEST. */
@@ -45,15 +46,14 @@ public final class GraphBoundariesTest {
     /** Counted without a limit, so that the texts are known to be at it. */
     private static int countOf(String text) {
         ShrinkingCalls x = Checks.told(text);
+        int[][] calls = new int[x.count(0)][];
+        for (int i = 0; i < calls.length; i++) calls[i] = new int[] {x.call(i, 0), x.call(i, 1), x.call(i, 2)};
         Set<Integer> all = new HashSet<>();
-        ArrayDeque<int[]> todo = new ArrayDeque<>();
-        for (int i = 0; i < x.count(0); i++) todo.add(new int[] {x.call(i, 0), x.call(i, 1), x.call(i, 2)});
+        ArrayDeque<int[]> todo = new ArrayDeque<>(List.of(calls));
         while (!todo.isEmpty()) {
             int[] g = todo.remove();
             if (!all.add((g[0] * 4 + g[1]) * 19683 + g[2])) continue;
-            for (int i = 0; i < x.count(0); i++) {
-                if (x.call(i, 0) == g[1]) todo.add(new int[] {g[0], x.call(i, 1), Oracle.join(g[2], x.call(i, 2))});
-            }
+            for (int[] c : calls) if (c[0] == g[1]) todo.add(new int[] {g[0], c[1], Oracle.join(g[2], c[2])});
         }
         return all.size();
     }

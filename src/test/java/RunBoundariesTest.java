@@ -293,6 +293,19 @@ public final class RunBoundariesTest {
         due("those that several calls lead to count once", x.next(0, 2, 0, 0), 9);
         due("two that overlap", x.next(0, 1, 0, 0), 3 + 4);
         due("by the second alone", x.next(0, 0, 0, 0), 3);
+        // each pair of three calls, and all three: all sizes but those that are too great for each of them
+        String[] calls = {"call AB 0=0;", "call AB 0=1;", "call AB 0=2;"};
+        for (int set = 1; set < 8; set++) {
+            StringBuilder text = new StringBuilder("act A1;act B3;");
+            for (int i = 0; i < 3; i++) if ((set >> i & 1) != 0) text.append(calls[i]);
+            x = Checks.told(text.toString());
+            x.most(3);
+            for (int a = 0; a <= 3; a++) {
+                int beyond = 1;
+                for (int i = 0; i < 3; i++) beyond *= (set >> i & 1) != 0 ? 3 - a : 4;
+                due("next(0, " + a + ", 0, 0) of " + text, x.next(0, a, 0, 0), 64 - beyond);
+            }
+        }
     }
 
     // ---- promise 23
