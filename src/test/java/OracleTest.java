@@ -36,7 +36,7 @@ public final class OracleTest {
     private void run() {
         int style = random.nextInt(6);
         int calls = 0;
-        while (calls < 450 && wrong < 10) {
+        while (calls < 440 && wrong < 10) {
             if (calls == 0 || random.nextInt(60) == 0) {
                 String text = random.nextInt(3) > 0 ? validText(style) : spoiled(validText(style));
                 if (text.length() > 300) text = text.substring(0, 300);
@@ -62,6 +62,38 @@ public final class OracleTest {
             else if (what == 12 && o.calls.size() > 0 && random.nextInt(4) > 0) compare(12, random.nextInt(o.calls.size()), 0, 0, 0);
             else compare(what, small(what == 9 ? 0 : what), small(what == 9 ? 0 : -1), small(-1), small(-1));
             calls++;
+        }
+        lawsHold();
+    }
+
+    /** What the document says to follow from one another, whatever the oracle takes it to mean (22 calls). */
+    private void lawsHold() {
+        int ends = x.ends(-1);
+        int shortest = x.shortest(-1);
+        int mended = x.mended(0);
+        if (ends == Oracle.STATE) {
+            law(shortest == Oracle.STATE && mended == Oracle.STATE && x.graphs() == Oracle.STATE, "LARGE for all or none");
+            return;
+        }
+        law(shortest == Oracle.NONE || ends == 0, "a shortest way, yet it ENDS");
+        law((mended == 0) == (ends == 1), "nothing left out, if and only if it ENDS");
+        law(x.trip(2) != 0 || ends == 0, "it ENDS, so each trip FALLS");
+        int m = x.count(5);
+        boolean all = true;
+        for (int act = 0; act < 4; act++) {
+            int p = x.places(act);
+            boolean acts = x.ends(act) == 1;
+            all &= acts;
+            law(x.slow(act) == Oracle.NONE || acts, "an order by which calls fall, so it ENDS");
+            law(x.longest(act, p > 0 ? m : 0, p > 1 ? m : 0, p > 2 ? m : 0) != Oracle.ENDLESS || ends == 0, "it ENDS, so no run is ENDLESS");
+        }
+        law(all == (ends == 1), "all ENDS, if and only if each ACT does");
+    }
+
+    private void law(boolean holds, String what) {
+        if (!holds) {
+            wrong++;
+            System.out.println(story + "then this does not hold: " + what);
         }
     }
 
